@@ -41,7 +41,6 @@ public final class OneBreath {
 
     private final Tape tape;
     private final Tongue tongue;
-    private final Tongue draft;
     private final Sounds breath;
     private final Sounds scratch;
     private final Rows rows;
@@ -59,7 +58,6 @@ public final class OneBreath {
     public OneBreath() {
         tape = new Tape();
         tongue = new Tongue();
-        draft = new Tongue();
         breath = new Sounds();
         scratch = new Sounds();
         rows = new Rows();
@@ -97,12 +95,12 @@ public final class OneBreath {
         if (!tape.holds(n)) {
             return WRONG_NUMBER;
         }
-        tape.readTongue(n, draft);
+        tape.readTongue(n);
         tape.size = 0;
         if (tape.faultKind != 0) {
             return FAULTY - tape.faultKind;
         }
-        tongue.become(draft);
+        tongue.become(tape.draft);
         breath.length = 0;
         forgetTongue();
         return tongue.lines;
@@ -793,7 +791,8 @@ public final class OneBreath {
         private final byte[] text = new byte[MOST_BYTES];
         int size;
         private int length;
-        private Tongue into;
+        /** What is read; it may be left half told by a FAULT. */
+        final Tongue draft = new Tongue();
         private int token;
         private int from;
         private int to;
@@ -829,9 +828,8 @@ public final class OneBreath {
             return true;
         }
 
-        void readTongue(int n, Tongue draft) {
+        void readTongue(int n) {
             length = Math.min(n, size);
-            into = draft;
             to = 0;
             faultKind = 0;
             faultPlace = NONE;
@@ -857,7 +855,7 @@ public final class OneBreath {
                 readNever();
             } else if (isNamed("last")) {
                 readLast();
-            } else if (into.sounds == 0) {
+            } else if (draft.sounds == 0) {
                 fail(FAULT_PLACE);
             } else if (isNamed("open")) {
                 readOpen();
@@ -873,7 +871,7 @@ public final class OneBreath {
         }
 
         private void readSounds() {
-            if (into.sounds > 0) {
+            if (draft.sounds > 0) {
                 fail(FAULT_ONE_MORE);
                 return;
             }
@@ -886,9 +884,9 @@ public final class OneBreath {
                 return;
             }
             for (int i = 0; i < n; i++) {
-                into.letters[i] = text[from + i];
+                draft.letters[i] = text[from + i];
             }
-            into.sounds = n;
+            draft.sounds = n;
         }
 
         private void readOpen() {
@@ -899,9 +897,9 @@ public final class OneBreath {
                 fail(FAULT_VALUE);
                 return;
             }
-            into.open = 0;
+            draft.open = 0;
             for (int i = from; i < to; i++) {
-                into.open |= 1 << into.findSound(text[i]);
+                draft.open |= 1 << draft.findSound(text[i]);
             }
         }
 
@@ -918,12 +916,12 @@ public final class OneBreath {
                 fail(FAULT_VALUE);
                 return;
             }
-            into.like[first] |= 1 << second;
-            into.like[second] |= 1 << first;
+            draft.like[first] |= 1 << second;
+            draft.like[second] |= 1 << first;
         }
 
         private void readWord() {
-            int w = into.words;
+            int w = draft.words;
             if (w >= MOST_WORDS) {
                 fail(FAULT_ONE_MORE);
                 return;
@@ -937,37 +935,37 @@ public final class OneBreath {
                 return;
             }
             for (int i = 0; i < n; i++) {
-                into.spelling[w][i] = (byte) into.findSound(text[from + i]);
+                draft.spelling[w][i] = (byte) draft.findSound(text[from + i]);
             }
-            if (into.findWord(into.spelling[w], n) != NONE) {
+            if (draft.findWord(draft.spelling[w], n) != NONE) {
                 fail(FAULT_VALUE);
                 return;
             }
-            into.lengths[w] = n;
+            draft.lengths[w] = n;
             wantName("use");
-            into.uses[w] = wantNumber(MOST_USE);
+            draft.uses[w] = wantNumber(MOST_USE);
             wantName("kind");
-            into.kinds[w] = wantNumber(KINDS - 1);
-            into.words++;
+            draft.kinds[w] = wantNumber(KINDS - 1);
+            draft.words++;
         }
 
         private void readNever() {
             int first = wantNumber(KINDS - 1);
             int second = wantNumber(KINDS - 1);
             if (faultKind == 0) {
-                into.follow[first] &= ~(1 << second);
+                draft.follow[first] &= ~(1 << second);
             }
         }
 
         private void readLast() {
             int kind = wantNumber(KINDS - 1);
             if (faultKind == 0) {
-                into.ending &= ~(1 << kind);
+                draft.ending &= ~(1 << kind);
             }
         }
 
         private void readShape() {
-            if (into.shapes >= MOST_SHAPES) {
+            if (draft.shapes >= MOST_SHAPES) {
                 fail(FAULT_ONE_MORE);
                 return;
             }
@@ -988,9 +986,9 @@ public final class OneBreath {
                 }
                 bits |= letter == 'o' ? 1 << i : 0;
             }
-            into.shapeLengths[into.shapes] = n;
-            into.shapeBits[into.shapes] = bits;
-            into.shapes++;
+            draft.shapeLengths[draft.shapes] = n;
+            draft.shapeBits[draft.shapes] = bits;
+            draft.shapes++;
         }
 
         /** A SOUND told by one letter, or NONE and a FAULT. */
@@ -998,7 +996,7 @@ public final class OneBreath {
             if (!wants(NAME)) {
                 return NONE;
             }
-            int sound = to - from == 1 ? into.findSound(text[from]) : NONE;
+            int sound = to - from == 1 ? draft.findSound(text[from]) : NONE;
             if (sound == NONE) {
                 fail(FAULT_VALUE);
             }
@@ -1088,7 +1086,7 @@ public final class OneBreath {
 
         private boolean isOfSounds() {
             for (int i = from; i < to; i++) {
-                if (into.findSound(text[i]) == NONE) {
+                if (draft.findSound(text[i]) == NONE) {
                     return false;
                 }
             }
@@ -1207,7 +1205,7 @@ public final class OneBreath {
         private final Tongue tongue;
         private int length;
         /** MISTAKES with which a WORD stands at a place, or UNFIT. */
-        private final byte[][] misses = new byte[SAID_MOST][MOST_WORDS];
+        private final byte[] misses = new byte[SAID_MOST * MOST_WORDS];
         /** The least price from a place on, by the KIND ahead of it. */
         private final int[] least = new int[(SAID_MOST + 1) * AHEAD];
         private final long[] ways = new long[(SAID_MOST + 1) * AHEAD * BUDGETS];
@@ -1230,7 +1228,7 @@ public final class OneBreath {
             length = row.length;
             for (int i = 0; i < length; i++) {
                 for (int w = 0; w < tongue.words; w++) {
-                    misses[i][w] = (byte) missesAt(row, i, w);
+                    misses[i * MOST_WORDS + w] = (byte) missesAt(row, i, w);
                 }
             }
         }
@@ -1260,7 +1258,7 @@ public final class OneBreath {
             length = Math.min(n, SAID_MOST);
             for (int i = 0; i < length; i++) {
                 for (int w = 0; w < tongue.words; w++) {
-                    misses[i][w] = (byte) (i + tongue.lengths[w] > length ? UNFIT : 0);
+                    misses[i * MOST_WORDS + w] = (byte) (i + tongue.lengths[w] > length ? UNFIT : 0);
                 }
             }
         }
@@ -1270,7 +1268,7 @@ public final class OneBreath {
             for (int i = Math.max(0, place - WORD_MOST); i < place && i < length; i++) {
                 for (int w = 0; w < tongue.words; w++) {
                     if (i + tongue.lengths[w] > place) {
-                        misses[i][w] = (byte) UNFIT;
+                        misses[i * MOST_WORDS + w] = (byte) UNFIT;
                     }
                 }
             }
@@ -1294,7 +1292,7 @@ public final class OneBreath {
             }
             long sum = 0;
             for (int w = 0; w < tongue.words; w++) {
-                int missed = misses[i][w];
+                int missed = misses[i * MOST_WORDS + w];
                 if (missed != UNFIT && missed <= budget && tongue.mayFollow(kind, w)) {
                     sum += ways[wayIndex(i + tongue.lengths[w], tongue.kinds[w], budget - missed)];
                 }
@@ -1335,7 +1333,7 @@ public final class OneBreath {
 
         /** The least price from a place on, if a WORD stands there; FAR if it can't. */
         private int priceThrough(int i, int kind, int w) {
-            int missed = misses[i][w];
+            int missed = misses[i * MOST_WORDS + w];
             boolean fits = pricing == HEARD ? missed != UNFIT : missed == 0;
             if (!fits || !tongue.mayFollow(kind, w)) {
                 return FAR;
@@ -1406,7 +1404,7 @@ public final class OneBreath {
         int chosenMisses() {
             int sum = 0;
             for (int j = 0; j < chosenCount; j++) {
-                sum += misses[places[j]][chosen[j]];
+                sum += misses[places[j] * MOST_WORDS + chosen[j]];
             }
             return sum;
         }
