@@ -38,7 +38,10 @@ public final class OracleTest {
         Random r = new Random(seed);
         for (int i = 0; i < tongues; i++) {
             Oracle o = Oracle.byChance(r);
-            B.anew();
+            // mostly one object goes on: what it kept of another tongue must not come back
+            if (r.nextInt(4) == 0) {
+                B.anew();
+            }
             String text = o.text();
             if (text.length() > 500) {
                 continue;
@@ -49,14 +52,27 @@ public final class OracleTest {
             for (int k = 0; k < 4; k++) {
                 lines(o, text, r);
             }
-            // what was looked for before must not come back
-            B.anew();
-            B.tongue(text);
+            warmUp(r);
             sure(o, text, r);
             costs(o, text, r);
             talk(o, text, r);
         }
         B.end();
+    }
+
+    /** Calls in another order: what one looked for must not tell in the next. */
+    private static void warmUp(Random r) {
+        int calls = r.nextInt(4);
+        for (int i = 0; i < calls; i++) {
+            switch (r.nextInt(6)) {
+                case 0: B.x.added(r.nextInt(4), 0); break;
+                case 1: B.x.mended(0); break;
+                case 2: B.x.changed(0); break;
+                case 3: B.x.paused(0); break;
+                case 4: B.x.unsureAt(0); break;
+                default: B.x.unsure(2); break;
+            }
+        }
     }
 
     private static void told(Oracle o, String text) {

@@ -28,6 +28,7 @@ public final class PromisesTest {
         unsure();
         unsureByMistakes();
         unsureAt();
+        unsureBehindOthers();
         bears();
         added();
         adds();
@@ -108,6 +109,8 @@ public final class PromisesTest {
         B.due("kind", B.x.word(0, 2), 3);
         B.due("later open ones strike: u", B.x.sound(0, 1), 1);
         B.due("later open ones strike: e", B.x.sound(2, 1), 0);
+        B.due("no open ones", B.tongue("sounds use;like u s;"), 2);
+        B.due("no open ones", B.x.sound(0, 1), 0);
         B.due("digits", B.tongue("sounds ab;word a use 007 kind 003;never 00 003;"), 3);
         B.due("use 007", B.x.word(0, 1), 7);
         B.due("eight sounds", B.tongue("sounds hgfedcba;"), 1);
@@ -150,6 +153,8 @@ public final class PromisesTest {
         faultAt("sounds ab;word 1 use 1 kind 0;", 2, 15);
         faultAt("sounds ab;like a;", 2, 16);
         faultAt("sounds ab;open;", 2, 14);
+        faultAt("sounds ab;x;", 2, 10);
+        faultAt("sounds ab;words a use 1 kind 0;", 2, 10);
     }
 
     private static void moreFaults() {
@@ -356,6 +361,9 @@ public final class PromisesTest {
         B.due("at(40)", B.x.at(40), -1);
         B.row(3);
         B.due("an empty row", B.x.say(3), -3);
+        B.due("cut(0, NONE) of what was said", B.x.cut(0, -1), 10);
+        B.due("say(2) again", B.x.say(2), 7);
+        B.due("cut(0, NONE) of what is said now", B.x.cut(0, -1), 2);
     }
 
     private static void lineAndAt() {
@@ -552,6 +560,25 @@ public final class PromisesTest {
         B.due("sounds by their numbers", B.x.sound(B.x.unsureAt(0), 0), 'b');
     }
 
+    /** What is kept of one answer must not tell in another one. */
+    private static void unsureBehindOthers() {
+        B.anew();
+        B.tongue("sounds abc;word a use 1 kind 0;word bb use 1 kind 0;");
+        B.due("added first", B.x.added(0, 0), 3);
+        B.due("sure without it", B.x.unsureAt(0), -1);
+        B.tongue(PLAIN);
+        B.due("mended first", B.x.mended(1), 1);
+        B.due("unsureAt(0)", B.x.unsureAt(0), 0);
+        B.due("changed then", B.x.changed(2), 2);
+        B.due("unsure(0)", B.x.unsure(0), 3);
+        B.tongue("sounds abc;word c use 1 kind 0;word cb use 1 kind 0;word bc use 1 kind 0;");
+        B.due("changed first", B.x.changed(2), 0);
+        B.due("unsureAt(1) of another tongue", B.x.unsureAt(1), 1);
+        B.due("unsureAt(2) of another tongue", B.x.unsureAt(2), 2);
+        B.due("paused then", B.x.paused(0), 1);
+        B.due("unsure(0)", B.x.unsure(0), 3);
+    }
+
     private static void bears() {
         B.anew();
         B.due("bears without a tongue", B.x.bears(), 2);
@@ -689,6 +716,10 @@ public final class PromisesTest {
         B.tongue("sounds ab;word a use 1 kind 0;word aa use 1 kind 1;word aaa use 1 kind 2;word aaaa use 1 kind 3;");
         B.due("all but one", B.x.paused(0), 3);
         B.due("all but one", B.x.paused(1), 7);
+        B.tongue("sounds abcd;word a use 1 kind 0;word aa use 1 kind 0;word b use 1 kind 1;word bb use 1 kind 1;"
+                + "word c use 1 kind 2;word cc use 1 kind 2;word d use 1 kind 3;word dd use 1 kind 3;");
+        B.due("all four", B.x.paused(0), 4);
+        B.due("all four", B.x.paused(1), 15);
     }
 
     private static void begun() {
@@ -889,9 +920,14 @@ public final class PromisesTest {
         B.due("always mistaken", B.x.asked(0, 5, 100), -1);
         B.row(1, 0, 7);
         B.due("no sentence", B.x.asked(1, 5, 10), -3);
-        for (int seed = 0; seed < 12; seed++) {
-            B.due("asked with seed " + seed, B.x.asked(0, seed, 70), times(seed));
+        boolean[] seen = new boolean[10];
+        for (int seed = 0; seed < 300; seed++) {
+            int times = times(seed);
+            B.due("asked with seed " + seed, B.x.asked(0, seed, 70), times);
+            seen[Math.max(0, times)] = true;
         }
+        B.due("one was asked for 9 times", seen[9] ? 1 : 0, 1);
+        B.due("one was never heard", seen[0] ? 1 : 0, 1);
     }
 
     /** How often "ab" is said till both its sounds come as they are, seven of ten being mistaken. */
@@ -1019,6 +1055,7 @@ public final class PromisesTest {
         B.tongue("sounds xy;word y use 1 kind 3;word xx use 7 kind 2;");
         B.line("yy");
         B.due("unsure(0)", B.x.unsure(0), -1);
+        B.due("cut(1, 0)", B.x.cut(1, 0), -1);
         B.feed("zz");
         B.due("restore(0)", B.x.restore(0), 0);
         B.due("the tape stays", B.x.count(5), 20);
