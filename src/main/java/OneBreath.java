@@ -1558,7 +1558,8 @@ public final class OneBreath {
         private final int[] after = new int[KINDS];
 
         private int most;
-        private int costs;
+        /** How many unlike pairs of MISTAKES there are; it divides, so it is never 0. */
+        private int costs = 1;
         private int span;
         private int waiting;
         private int scanned;
@@ -1666,7 +1667,7 @@ public final class OneBreath {
          */
         private int pop(int length) {
             int base = (length % WAITING) * SPAN_MOST;
-            for (int n = 0; n < STATES_MOST && scanned < span; n++) {
+            for (int n = 0; n < 2 * STATES_MOST && scanned < span; n++) {
                 long bit = Long.lowestOneBit(pending[base + scanned]);
                 if (bit == 0) {
                     scanned++;
