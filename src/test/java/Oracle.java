@@ -73,6 +73,43 @@ final class Oracle {
         return o;
     }
 
+    /** Much that never stands behind, little that is last, many likes: two that are heard alike must go far. */
+    static Oracle strictByChance(Random r) {
+        Oracle o = new Oracle();
+        o.sounds = 2 + r.nextInt(3);
+        int likes = 1 + r.nextInt(4);
+        for (int i = 0; i < likes; i++) {
+            int a = r.nextInt(o.sounds);
+            int b = (a + 1 + r.nextInt(o.sounds - 1)) % o.sounds;
+            o.like[a][b] = true;
+            o.like[b][a] = true;
+        }
+        int strict = 3 + r.nextInt(6);
+        for (int i = 0; i < 4; i++) {
+            o.notLast[i] = r.nextInt(3) > 0;
+            for (int k = 0; k < 4; k++) {
+                o.never[i][k] = r.nextInt(9) < strict;
+            }
+        }
+        o.notLast[r.nextInt(4)] = false;
+        int count = 4 + r.nextInt(7);
+        int longest = 2 + r.nextInt(4);
+        for (int i = 0; i < count; i++) {
+            // WORDS that are like an earlier one are mistaken more easily
+            boolean fresh = o.words.isEmpty() || r.nextBoolean();
+            int[] w = fresh ? new int[1 + r.nextInt(longest)] : o.words.get(r.nextInt(o.words.size())).clone();
+            for (int k = 0; k < w.length; k++) {
+                w[k] = fresh || r.nextInt(3) == 0 ? r.nextInt(o.sounds) : w[k];
+            }
+            if (o.find(w) < 0) {
+                o.words.add(w);
+                o.uses.add(1);
+                o.kinds.add(r.nextInt(4));
+            }
+        }
+        return o;
+    }
+
     String text() {
         StringBuilder b = new StringBuilder("sounds " + "abcdefgh".substring(0, sounds) + ";");
         StringBuilder opened = new StringBuilder();

@@ -57,6 +57,14 @@ public final class OracleTest {
             costs(o, text, r);
             talk(o, text, r);
         }
+        for (int i = 0; i < 2 * tongues; i++) {
+            Oracle o = Oracle.strictByChance(r);
+            String text = o.text();
+            if (text.length() <= 500) {
+                B.tongue(text);
+                unsure(o, text);
+            }
+        }
         B.end();
     }
 
@@ -195,11 +203,10 @@ public final class OracleTest {
         B.due(told + "asked", B.x.asked(2, seed, hundredths), asked);
     }
 
-    private static void sure(Oracle o, String text, Random r) {
+    private static void unsure(Oracle o, String text) {
         for (int m = 0; m <= 2; m++) {
             B.due(text + " unsure(" + m + ")", B.x.unsure(m), o.unsure(m, 0));
         }
-        B.due(text + " bears", B.x.bears(), o.bears());
         int length = o.unsure(0, 0);
         int[] line = length < 0 ? new int[0] : o.unsureLine(length);
         for (int i = 0; i <= line.length; i++) {
@@ -209,6 +216,11 @@ public final class OracleTest {
             B.line(Oracle.letters(line));
             B.due(text + " the unsure line has two cuts", B.x.cuts(0) >= 2 ? 1 : 0, 1);
         }
+    }
+
+    private static void sure(Oracle o, String text, Random r) {
+        unsure(o, text);
+        B.due(text + " bears", B.x.bears(), o.bears());
         int kind = r.nextInt(4);
         int[] added = o.added(kind);
         int n = added == null ? 0 : added.length - 1;

@@ -8,6 +8,10 @@ final class SureEdges extends Edges {
             + "word aaa use 1 kind 0;word aab use 1 kind 0;word aba use 1 kind 0;word abb use 1 kind 0;"
             + "word baa use 1 kind 0;word bab use 1 kind 0;";
 
+    /** Behind KIND 0 stands KIND 2 alone, behind KIND 1 KIND 3; both end there. */
+    private static final String TWO_ROWS = "like a b;last 0;last 1;never 0 0;never 0 1;never 0 3;never 1 0;never 1 1;"
+            + "never 1 2;never 2 0;never 2 1;never 2 2;never 2 3;never 3 0;never 3 1;never 3 2;never 3 3;";
+
     SureEdges(Quotes quotes) {
         super(quotes);
     }
@@ -98,9 +102,13 @@ final class SureEdges extends Edges {
         words("abcd", "like a b;like b c;like c d;", "a0", "d0");
         dueUnsure(-1, -1, -1);
         // they are counted over the SENTENCE, not for each WORD: aa.a and b.bb differ in three, and nothing else is said
-        words("ab", "like a b;last 0;last 1;never 0 0;never 0 1;never 0 3;never 1 0;never 1 1;never 1 2;never 2 0;"
-                + "never 2 1;never 2 2;never 2 3;never 3 0;never 3 1;never 3 2;never 3 3;", "aa0", "b1", "a2", "bb3");
+        words("ab", TWO_ROWS, "aa0", "b1", "a2", "bb3");
         dueUnsure(-1, -1, 3);
+        // aaa and bbb are SENTENCES, too, and shorter than aa.aaa and bb.bbb
+        words("ab", TWO_ROWS, "aa0", "bb1", "aaa2", "bbb3");
+        dueUnsure(-1, -1, 3);
+        words("ab", TWO_ROWS + "last 2;", "aa0", "bb1", "aaa2", "bbb3");
+        dueUnsure(-1, -1, -1);
     }
 
     private void unsure() {
@@ -119,6 +127,11 @@ final class SureEdges extends Edges {
         // the whole SENTENCES count, with what comes behind alike
         words("abc", "last 0;", "a0", "aa0", "bcbcbc1");
         dueUnsure(8, 8, 8);
+        words("abc", "last 0;", "bcbcbc1", "a0", "aa0");
+        dueUnsure(8, 8, 8);
+        // two of six SOUNDS, and no other
+        words("ab", "like a b;", "aaaaaa0", "aabbaa0");
+        dueUnsure(-1, 6, 6);
         edge(21, "NONE: it is SURE");
         words("ab", "", "ab0", "b0");
         due(-1, x.unsure(0));

@@ -250,8 +250,25 @@ final class TongueEdges extends Edges {
         }
         faulty(2, "sounds ab;word a ^kind 1 use 1;");
         faulty(2, "sounds ab;word a use 1 ^use 1;");
-        faulty(2, "^lasts 1;");
-        faulty(2, "^las 1;");
+        misnamed();
+    }
+
+    /** Each letter of each name taken for another one, left out, or told twice. */
+    private void misnamed() {
+        String[][] linesByNames = {{"", "sounds", " cd;"}, {"sounds ab;", "open", " a;"}, {"sounds ab;", "like", " a b;"},
+            {"sounds ab;", "word", " a use 1 kind 0;"}, {"sounds ab;word a ", "use", " 1 kind 0;"},
+            {"sounds ab;word a use 1 ", "kind", " 0;"}, {"", "never", " 0 0;"}, {"", "last", " 0;"},
+            {"sounds ab;", "shape", " o;"}};
+        for (String[] line : linesByNames) {
+            String name = line[1];
+            for (int i = 0; i < name.length(); i++) {
+                char letter = name.charAt(i);
+                char other = letter == 'z' ? 'a' : (char) (letter + 1);
+                faulty(2, line[0] + "^" + name.substring(0, i) + other + name.substring(i + 1) + line[2]);
+                faulty(2, line[0] + "^" + name.substring(0, i) + name.substring(i + 1) + line[2]);
+                faulty(2, line[0] + "^" + name.substring(0, i) + letter + name.substring(i) + line[2]);
+            }
+        }
     }
 
     private void soundsLine() {
