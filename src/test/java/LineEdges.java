@@ -144,6 +144,13 @@ final class LineEdges extends Edges {
         due(0, x.at(2));
         due(-1, x.at(3));
         due(1, x.cuts(0));
+        // what was asked of the line ahead is not of this one
+        due(2, x.cut(0, -1));
+        b.row(2, 0);
+        due(1, x.say(2));
+        due(1, x.cut(0, -1));
+        due(0, x.cut(0, 0));
+        due(0, x.mistakes());
         edge(14, "It is said as its SOUNDS without a stop");
         b.tongue("sounds ab;word ab use 1 kind 0;word a use 1 kind 0;word ba use 1 kind 0;");
         b.row(0, 0, 1);
@@ -205,6 +212,16 @@ final class LineEdges extends Edges {
         due(0, x.line(0));
         due(0, x.count(5));
         due(0, x.count(4));
+        b.tongue(STRICT);
+        b.line("bba");
+        due(2, x.cut(0, -1));
+        b.line("a");
+        due(1, x.cut(0, -1));
+        b.line("ab");
+        due(-1, x.cut(0, -1));
+        due(-1, x.mistakes());
+        b.line("bb");
+        due(0, x.mistakes());
         edge(15, "THE LINE has up to 40 SOUNDS (none at first)");
         due(0, x.count(4));
         b.tongue("sounds abc;");
@@ -349,6 +366,15 @@ final class LineEdges extends Edges {
         b.line("abab");
         dueCut(0, 2, 0);
         dueCut(1, 2, 1, 2, 1);
+        // bc never stands behind a, though it may stand behind b
+        b.tongue("sounds abc;never 0 1;word a use 1 kind 0;word b use 1 kind 2;word bc use 1 kind 1;"
+                + "word c use 1 kind 0;");
+        b.line("abc");
+        dueCut(0, 0, 1, 3);
+        dueCut(1);
+        b.line("bbc");
+        dueCut(0, 1, 1, 3);
+        dueCut(1, 1, 2);
         // the second may differ from the first in its first WORD alone
         b.tongue("sounds ab;word a use 1 kind 0;word ab use 1 kind 0;word ba use 1 kind 0;");
         b.line("aba");

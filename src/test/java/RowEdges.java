@@ -457,6 +457,12 @@ final class RowEdges extends Edges {
         asks(2, 2, 2, -1, 1, 1, 11);
         due(0, x.restore(1));
         asks(0, -1, -1, 2, 0, 0, 3);
+        // one CUT asked for ahead and behind
+        due(1, x.mistakes());
+        due(0, x.restore(0));
+        due(0, x.mistakes());
+        due(0, x.restore(1));
+        due(1, x.mistakes());
         // an IMAGE that is taken is there still
         due(0, x.restore(1));
         due(0, x.restore(0));

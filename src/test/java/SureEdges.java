@@ -484,6 +484,11 @@ final class SureEdges extends Edges {
         // behind each: a stop between a and a tells them from aa
         words("ab", "", "a1", "aa2");
         duePaused(1, 2);
+        // six SOUNDS and a stop, from six SOUNDS of two WORDS
+        words("ab", "", "ababab0", "aba1", "bab1");
+        duePaused(1, 1);
+        words("ab", "", "aaaaaa3", "aaa1");
+        duePaused(1, 2);
         // all of one KIND
         words("ab", "", "a3", "aa3");
         duePaused(1, 8);

@@ -168,7 +168,9 @@ final class TongueEdges extends Edges {
         b.tongue("sounds ab;word a use 1 kind 0;");
         b.line("aa");
         due(1, x.cuts(0));
+        due(2, x.cut(0, -1));
         b.tongue("sounds ab;word a use 1 kind 0;");
+        due(-1, x.cut(0, -1));
         due(0, x.count(4));
         due(-1, x.at(0));
         due(0, x.cuts(0));
@@ -633,6 +635,9 @@ final class TongueEdges extends Edges {
         }
         edge(5, "2: those that it is like (bits)");
         b.tongue("sounds abcdefgh;like h a;like h b;like h c;like h d;like h e;like h f;like h g;");
+        due(127, x.sound(7, 2));
+        due(128, x.sound(3, 2));
+        b.tongue("sounds abcdefgh;like a h;like b h;like c h;like d h;like e h;like f h;like g h;");
         due(127, x.sound(7, 2));
         due(128, x.sound(0, 2));
         due(128, x.sound(6, 2));
