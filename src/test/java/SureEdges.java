@@ -166,6 +166,15 @@ final class SureEdges extends Edges {
         // with m 0: MISTAKES don't count
         words("abc", "like a b;", "a0", "b0", "c0", "ccb0");
         dueUnsureLine(2, 2, 1);
+        // both end a WORD on the way, of KINDS that can't be last: b.a and ba ahead of ab
+        words("ab", "never 0 0;last 1;never 1 1;never 1 3;last 2;never 3 3;", "b2", "ab0", "a1", "ba1", "bb2");
+        dueUnsureLine(1, 0, 0, 1);
+        // so, too, b.ab.b and babb ahead of babb
+        words("ab", "never 0 0;never 0 1;never 0 2;never 0 3;never 1 3;last 2;never 2 0;never 3 0;never 3 1;",
+                "babb1", "aabb3", "ab2", "bbbb2", "b2");
+        dueUnsureLine(1, 0, 1, 1, 1, 0, 1, 1);
+        words("abc", "last 1;never 3 2;", "b0", "cbabaa3", "abc3", "a2", "ba1", "c3", "aaab3");
+        dueUnsureLine(0, 1, 2);
         edge(22, "SOUND i of THE UNSURE LINE");
         words("ab", "never 0 1;never 1 0;", "aaaaaa0", "aaaaa1");
         dueUnsureLine(new int[30]);
