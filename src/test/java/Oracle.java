@@ -110,6 +110,42 @@ final class Oracle {
         return o;
     }
 
+    /** As much as can be told: 12 WORDS and 6 SHAPES, some of them as long as can be. */
+    static Oracle fullByChance(Random r) {
+        Oracle o = new Oracle();
+        o.sounds = r.nextBoolean() ? 8 : 3 + r.nextInt(5);
+        for (int i = 0; i < o.sounds; i++) {
+            o.open[i] = r.nextBoolean();
+            int other = r.nextInt(o.sounds);
+            if (other != i && r.nextBoolean()) {
+                o.like[i][other] = true;
+                o.like[other][i] = true;
+            }
+        }
+        int shortest = r.nextInt(3) == 0 ? 1 : 4;
+        for (int tries = 0; tries < 1000 && o.words.size() < 12; tries++) {
+            int[] w = new int[shortest + r.nextInt(7 - shortest)];
+            for (int k = 0; k < w.length; k++) {
+                w[k] = r.nextInt(o.sounds);
+            }
+            if (o.find(w) < 0) {
+                o.words.add(w);
+                o.uses.add(r.nextInt(3) == 0 ? 99 : r.nextInt(10));
+                o.kinds.add(r.nextInt(4));
+            }
+        }
+        for (int i = 0; i < 6; i++) {
+            o.shapes.add(new boolean[1 + r.nextInt(6)]);
+            for (int k = 0; k < o.shapes.get(i).length; k++) {
+                o.shapes.get(i)[k] = r.nextBoolean();
+            }
+        }
+        for (int i = r.nextInt(5); i > 0; i--) {
+            o.never[r.nextInt(4)][r.nextInt(4)] = true;
+        }
+        return o;
+    }
+
     String text() {
         StringBuilder b = new StringBuilder("sounds " + "abcdefgh".substring(0, sounds) + ";");
         StringBuilder opened = new StringBuilder();
