@@ -524,6 +524,14 @@ final class TongueEdges extends Edges {
         b.feed("last 0;last 0;");
         due(-32, x.tongue(11));
         due(11, x.fault(1));
+        // the end of a full TAPE, behind each TOKEN
+        String told = "sounds abc;open ab;like a b;word abcabc use 12 kind 3;never 0 1;last 2;shape ososos;";
+        for (int end = 1; end < told.length(); end++) {
+            String text = " ".repeat(500 - end) + told.substring(0, end);
+            if (!text.endsWith(";") && text.substring(495).matches(".*( |abc|ab|2|3|1|os)")) {
+                faulty(2, text + "^");
+            }
+        }
         faulty(2, "^open a;");
         faulty(2, "^like a b;");
         faulty(2, "last 0;^word a use 1 kind 0;");
